@@ -18,6 +18,8 @@ public final class ChangesTest {
         passEqualFaces();
         passWear();
         passDeliversInOrder();
+        passDeliversTwelve();
+        passTakesTheLastTonne();
         errorsChangeNothing();
         Checks.end();
     }
@@ -287,6 +289,31 @@ public final class ChangesTest {
         Checks.due("contracts left", x.count(2), 3);
         Checks.due("the one left first", x.ofContract(0, 5), 2);
         Checks.due("the one left last", x.ofContract(2, 5), 4);
+    }
+
+    private static void passDeliversTwelve() {
+        QuarryBlends x = new QuarryBlends();
+        Checks.crushAtOnce(x, 100, 1, 1);
+        for (int contract = 0; contract < 12; contract++) {
+            x.contract(1 + contract, 0, 100, 0, 100, 1);
+        }
+        Checks.due("pass(1)", x.pass(1), 12);
+        Checks.due("paid", x.count(9), 78);
+        Checks.due("none is left", x.count(2), 0);
+        Checks.due("tonnes left", x.bin(0) + x.bin(1) + x.bin(2), 22);
+        Checks.due("pass(1) of none", x.pass(1), 0);
+    }
+
+    private static void passTakesTheLastTonne() {
+        QuarryBlends x = new QuarryBlends();
+        x.set(LOAD, 3);
+        x.face(1, 1, 1);
+        x.face(4, 1, 1);
+        x.pass(1);
+        Checks.due("face 0", x.ofFace(0, 0), 0);
+        Checks.due("face 1", x.ofFace(1, 0), 0);
+        Checks.due("crushed", x.count(5), 5);
+        Checks.due("three were sent", x.count(10), 6);
     }
 
     private static void errorsChangeNothing() {

@@ -140,6 +140,10 @@ public final class TextsTest {
             Checks.due("the gap behind \"" + text + "\"", x.count(14), gap);
         }
         QuarryBlends x = new QuarryBlends();
+        Checks.putText(x, "c1:0-0/0-0$0;c2:0-0/0-0$0;c3:0-0/0-0$0;x1;x1;x1");
+        Checks.due("carryOut() of one drop too many", x.carryOut(), 5);
+        Checks.due("the first one is left", x.ofContract(0, 0), 1);
+        x = new QuarryBlends();
         x.set(HOURS, 24);
         Checks.putText(x, "d30;d30;d30;d30;d30;d30;d30;d30;d30;d30;d30;d30;d30;d27;m");
         Checks.due("carryOut() beyond the last hour", x.carryOut(), 13);

@@ -93,6 +93,12 @@ public final class WhatIfTest {
         x.contract(20, 0, 0, 100, 100, 6);
         Checks.due("coarse ones again: bestGap(1, 0)", x.bestGap(1, 0), 8);
         Checks.due("coarse ones again: bestGap(1, 1)", x.bestGap(1, 1), 320);
+        x.contract(45, 0, 0, 100, 100, 99);
+        Checks.due("the ones ahead take the coarse stone: bestGap(1, 0)", x.bestGap(1, 0), 8);
+        x.drop(0);
+        x.drop(1);
+        Checks.due("the highest gap: bestGap(1, 0)", x.bestGap(1, 0), 9);
+        Checks.due("the highest gap: bestGap(1, 1)", x.bestGap(1, 1), 4455);
         Checks.due("GAP stays", x.count(11 + GAP), 5);
     }
 
