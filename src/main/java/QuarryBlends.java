@@ -111,18 +111,14 @@ public final class QuarryBlends {
         if (within(what, 0, TERM_COUNT - 1)) {
             return contracts.term(contract, what);
         }
-        if (!within(what, TERM_COUNT, TERM_COUNT + 2)) {
-            return BAD_VALUE;
+        Blend blend = now.blend;
+        blend.workOut(contracts, contract, now.crusher.bins);
+        switch (what) {
+            case 6: return blend.reason;
+            case 7: return blend.reason == 0 ? blend.fine : NONE;
+            case 8: return blend.reason == 0 ? blend.coarse : NONE;
+            default: return BAD_VALUE;
         }
-        int[] bins = now.crusher.bins;
-        int reason = contracts.reasonAgainst(contract, bins);
-        if (what == TERM_COUNT) {
-            return reason;
-        }
-        if (reason != 0) {
-            return NONE;
-        }
-        return what == TERM_COUNT + 1 ? contracts.fineByRule(contract, bins) : contracts.coarseByRule(contract, bins);
     }
 
     public int bin(int bin) {
@@ -162,7 +158,7 @@ public final class QuarryBlends {
             return BAD_VALUE;
         }
         trial.copyFrom(now);
-        int deliveries = trial.runDays(days);
+        int deliveries = trial.runDays(days, false);
         if (what == 0) {
             return deliveries;
         }
@@ -178,7 +174,7 @@ public final class QuarryBlends {
         for (int gap = GAP_LEAST; gap <= GAP_MOST; gap++) {
             trial.copyFrom(now);
             trial.settings[GAP] = gap;
-            trial.runDaysWithContracts(days);
+            trial.runDays(days, true);
             if (trial.paid - now.paid > mostPaid) {
                 mostPaid = trial.paid - now.paid;
                 best = gap;
@@ -197,7 +193,7 @@ public final class QuarryBlends {
         for (int trucks = now.trucks.leastSetting(); trucks <= TRUCK_LIMIT; trucks++) {
             trial.copyFrom(now);
             trial.settings[TRUCKS] = trucks;
-            if (trial.runDaysWithContracts(days) >= contracts) {
+            if (trial.runDays(days, true) >= contracts) {
                 return trucks;
             }
         }
@@ -310,6 +306,8 @@ public final class QuarryBlends {
         final Trucks trucks = new Trucks();
         final Crusher crusher = new Crusher();
         final Contracts contracts = new Contracts();
+        // no part of the state: it's worked out anew for each question
+        final Blend blend = new Blend();
         int hours;
         int delivered;
         int paid;
@@ -349,36 +347,23 @@ public final class QuarryBlends {
             if (hours + days * settings[HOURS] > HOURS_LIMIT) {
                 return NOT_POSSIBLE;
             }
-            return runDays(days);
+            return runDays(days, false);
         }
 
-        /** Returns how many contracts are delivered. */
-        int runDays(int days) {
+        /** Returns how many contracts are delivered; one who asks for nothing else may let the days end with the contracts. */
+        int runDays(int days, boolean endWithContracts) {
             int before = delivered;
-            for (int day = 0; day < days; day++) {
-                runDay();
+            for (int day = 0; day < days && !(endWithContracts && contracts.amount == 0); day++) {
+                int hoursOfDay = settings[HOURS];
+                for (int hour = 0; hour < hoursOfDay; hour++) {
+                    bringLoads();
+                    sendTrucks();
+                    crusher.crushForAnHour(settings[GAP], settings[CRUSH]);
+                    hours++;
+                }
+                deliver();
             }
             return delivered - before;
-        }
-
-        /** As runDays, for a caller that asks for deliveries alone: without contracts no day brings any. */
-        int runDaysWithContracts(int days) {
-            int before = delivered;
-            for (int day = 0; day < days && contracts.amount > 0; day++) {
-                runDay();
-            }
-            return delivered - before;
-        }
-
-        void runDay() {
-            int hoursOfDay = settings[HOURS];
-            for (int hour = 0; hour < hoursOfDay; hour++) {
-                bringLoads();
-                sendTrucks();
-                crusher.crushForAnHour(settings[GAP], settings[CRUSH]);
-                hours++;
-            }
-            deliver();
         }
 
         void bringLoads() {
@@ -407,28 +392,19 @@ public final class QuarryBlends {
         }
 
         void deliver() {
-            int[] bins = crusher.bins;
             int contract = 0;
             // a delivered contract leaves its number to the one behind it, so only a refused one is stepped over
             for (int looks = 0; looks < CONTRACT_LIMIT && contract < contracts.amount; looks++) {
-                if (contracts.reasonAgainst(contract, bins) != 0) {
+                blend.workOut(contracts, contract, crusher.bins);
+                if (blend.reason != 0) {
                     contract++;
                 } else {
-                    deliverOne(contract, bins);
+                    paid += blend.tonnes * contracts.term(contract, PRICE);
+                    delivered++;
+                    crusher.takeOut(blend);
+                    contracts.dropOne(contract);
                 }
             }
-        }
-
-        void deliverOne(int contract, int[] bins) {
-            int tonnes = contracts.term(contract, TONNES);
-            int fine = contracts.fineByRule(contract, bins);
-            int coarse = contracts.coarseByRule(contract, bins);
-            bins[FINE] -= fine;
-            bins[MIDDLE] -= tonnes - fine - coarse;
-            bins[COARSE] -= coarse;
-            paid += tonnes * contracts.term(contract, PRICE);
-            delivered++;
-            contracts.dropOne(contract);
         }
     }
 
@@ -448,7 +424,7 @@ public final class QuarryBlends {
         }
 
         boolean has(int face) {
-            return within(face, 0, amount - 1) && face < FACE_LIMIT;
+            return face >= 0 && face < amount && face < FACE_LIMIT;
         }
 
         int add(int tonnes, int itsHardness, int itsWay) {
@@ -609,6 +585,12 @@ public final class QuarryBlends {
             wear += tonnes * hardness;
             crushed += tonnes;
         }
+
+        void takeOut(Blend blend) {
+            bins[FINE] -= blend.fine;
+            bins[MIDDLE] -= blend.tonnes - blend.fine - blend.coarse;
+            bins[COARSE] -= blend.coarse;
+        }
     }
 
     /** The contracts, each a row of terms in one array, so that rows move up at once. */
@@ -622,7 +604,7 @@ public final class QuarryBlends {
         }
 
         boolean has(int contract) {
-            return within(contract, 0, amount - 1) && contract < CONTRACT_LIMIT;
+            return contract >= 0 && contract < amount && contract < CONTRACT_LIMIT;
         }
 
         int term(int contract, int term) {
@@ -668,38 +650,36 @@ public final class QuarryBlends {
             amount--;
             return amount;
         }
+    }
 
-        /** Returns the fewest tonnes whose hundredths are at least those of a term. */
-        int fewest(int contract, int term) {
-            return (term(contract, TONNES) * term(contract, term) + 99) / 100;
+    /** The blend of a contract by rule, and the reason against it; only if that is 0, the blend can be made. */
+    private static final class Blend {
+        int tonnes;
+        int leastFine;
+        int mostFine;
+        int leastCoarse;
+        int mostCoarse;
+        int fine;
+        int coarse;
+        int reason;
+
+        void workOut(Contracts contracts, int contract, int[] bins) {
+            tonnes = contracts.term(contract, TONNES);
+            // the least ones are rounded up, as a part of a tonne that has to be there asks for a whole one
+            leastFine = (tonnes * contracts.term(contract, LEAST_FINE) + 99) / 100;
+            mostFine = tonnes * contracts.term(contract, MOST_FINE) / 100;
+            leastCoarse = (tonnes * contracts.term(contract, LEAST_COARSE) + 99) / 100;
+            mostCoarse = tonnes * contracts.term(contract, MOST_COARSE) / 100;
+            coarse = Math.min(Math.min(mostCoarse, bins[COARSE]), tonnes - leastFine);
+            fine = Math.max(leastFine, tonnes - coarse - bins[MIDDLE]);
+            reason = reasonAgainst(bins);
         }
 
-        /** Returns the most tonnes whose hundredths are at most those of a term. */
-        int most(int contract, int term) {
-            return term(contract, TONNES) * term(contract, term) / 100;
-        }
-
-        /** Returns the coarse tonnes of the blend by rule; they mean something only if no reason is against it. */
-        int coarseByRule(int contract, int[] bins) {
-            int besideTheFewestFine = term(contract, TONNES) - fewest(contract, LEAST_FINE);
-            return Math.min(Math.min(most(contract, MOST_COARSE), bins[COARSE]), besideTheFewestFine);
-        }
-
-        /** Returns the fine tonnes of the blend by rule; they mean something only if no reason is against it. */
-        int fineByRule(int contract, int[] bins) {
-            int lackingOtherwise = term(contract, TONNES) - coarseByRule(contract, bins) - bins[MIDDLE];
-            return Math.max(fewest(contract, LEAST_FINE), lackingOtherwise);
-        }
-
-        int reasonAgainst(int contract, int[] bins) {
-            int leastFine = fewest(contract, LEAST_FINE);
-            int leastCoarse = fewest(contract, LEAST_COARSE);
-            int mostFine = most(contract, MOST_FINE);
-            int tonnes = term(contract, TONNES);
+        int reasonAgainst(int[] bins) {
             if (bins[FINE] + bins[MIDDLE] + bins[COARSE] < tonnes) {
                 return 1;
             }
-            if (leastFine > mostFine || leastCoarse > most(contract, MOST_COARSE) || leastFine + leastCoarse > tonnes) {
+            if (leastFine > mostFine || leastCoarse > mostCoarse || leastFine + leastCoarse > tonnes) {
                 return 2;
             }
             if (bins[FINE] < leastFine) {
@@ -709,7 +689,7 @@ public final class QuarryBlends {
                 return 4;
             }
             // the most coarse stone leaves the least to the other bins, so if that blend can't be made, none can
-            return fineByRule(contract, bins) > Math.min(mostFine, bins[FINE]) ? 5 : 0;
+            return fine > mostFine || fine > bins[FINE] ? 5 : 0;
         }
     }
 
@@ -857,7 +837,7 @@ public final class QuarryBlends {
 
         /** Returns the character at the reader's place, 0 behind the end. */
         char sign() {
-            return within(place, 0, length - 1) && place < PAD_LIMIT ? characters[place] : 0;
+            return place >= 0 && place < length && place < PAD_LIMIT ? characters[place] : 0;
         }
 
         boolean readSign(char due) {
@@ -893,7 +873,7 @@ public final class QuarryBlends {
         }
 
         void keepNumber(int value) {
-            if (within(numbersRead, 0, NUMBERS_IN_AN_ORDER - 1)) {
+            if (numbersRead >= 0 && numbersRead < NUMBERS_IN_AN_ORDER) {
                 numbers[numbersRead] = value;
                 numbersRead++;
             }
