@@ -75,6 +75,14 @@ public final class TextsTest {
         Checks.putText(x, "g1");
         Checks.due("nothing stays", x.fault(), NONE);
         Checks.due("wipe() of two", x.wipe(), 2);
+        Checks.putText(x, "d12;m");
+        x.wipe();
+        Checks.putText(x, "d");
+        Checks.due("what was wiped is not read", x.fault(), 1);
+        Checks.putText(x, "3");
+        Checks.due("nor behind a number", x.fault(), NONE);
+        Checks.due("carryOut()", x.carryOut(), 1);
+        Checks.due("three days of eight hours", x.count(0), 24);
     }
 
     private static void faults() {

@@ -158,6 +158,9 @@ public final class WhatThereIsTest {
         blend(x, new int[] {7, 15, 29, 15, 29}, 0, 2, 2);
         blend(x, new int[] {3, 34, 100, 34, 100}, 2, NONE, NONE);
         blend(x, new int[] {1, 1, 99, 0, 100}, 2, NONE, NONE);
+        blend(x, new int[] {3, 67, 67, 0, 100}, 2, NONE, NONE);
+        blend(x, new int[] {3, 0, 100, 67, 67}, 2, NONE, NONE);
+        blend(x, new int[] {3, 0, 100, 66, 67}, 0, 0, 2);
         blend(x, new int[] {50, 3, 3, 5, 5}, 2, NONE, NONE);
         blend(x, new int[] {50, 2, 2, 4, 4}, 5, NONE, NONE);
         blend(x, new int[] {30, 0, 3, 0, 3}, 0, 0, 0);
