@@ -5,25 +5,41 @@ public final class Checks {
     static final int TRUCKS = QuarryBlends.TRUCKS, LOAD = QuarryBlends.LOAD, HOURS = QuarryBlends.HOURS;
     static final int GAP = QuarryBlends.GAP, CRUSH = QuarryBlends.CRUSH, COST = QuarryBlends.COST;
 
+    private static final int MOST_TOLD = 50;
     private static int made = 0;
     private static int wrong = 0;
+    private static String about = "";
 
     private Checks() {
+    }
+
+    /** Tells what the checks that follow are about, for those that fail. */
+    static void about(String itsAbout) {
+        about = itsAbout.isEmpty() ? "" : itsAbout + ": ";
+    }
+
+    static int made() {
+        return made;
     }
 
     static void due(String call, long got, long want) {
         made++;
         if (got != want) {
-            wrong++;
-            System.out.println(call + " answered " + got + ", due is " + want);
+            tellWrong(call + " answered " + got + ", due is " + want);
         }
     }
 
     static void due(String what, String got, String want) {
         made++;
         if (!got.equals(want)) {
-            wrong++;
-            System.out.println(what + " is\n  " + got + "\ndue is\n  " + want);
+            tellWrong(what + " is\n  " + got + "\ndue is\n  " + want);
+        }
+    }
+
+    private static void tellWrong(String what) {
+        wrong++;
+        if (wrong <= MOST_TOLD) {
+            System.out.println(about + what);
         }
     }
 
@@ -52,6 +68,43 @@ public final class Checks {
             String part = text.substring(from, Math.min(text.length(), from + 8));
             int before = x.count(17);
             due("put(\"" + part + "\")", x.put(packed(part)), before + part.length());
+        }
+    }
+
+    /** Numbers that aren't from the least to the most one: next to them, far off, and such as narrow numbers wrap around to them. */
+    static int[] outside(int least, int most) {
+        int[] some = {least - 1, most + 1, Integer.MIN_VALUE, Integer.MAX_VALUE, least + (1 << 8), least + (1 << 16), most - (1 << 8),
+            most - (1 << 16), Integer.MIN_VALUE + least, Integer.MAX_VALUE - most, ~least, ~most};
+        return java.util.Arrays.stream(some).filter(number -> number < least || number > most).toArray();
+    }
+
+    /** A quarry with so many tonnes in the bins (164, 72 and 164 at most), without any stone elsewhere and without contracts. */
+    static QuarryBlends withBins(int fine, int middle, int coarse) {
+        QuarryBlends x = new QuarryBlends();
+        x.set(HOURS, 2);
+        x.set(TRUCKS, 20);
+        x.set(CRUSH, 200);
+        // the softest stone is nearly all fine by the least gap, the hardest nearly all coarse by the most
+        for (int both : new int[] {1, 9}) {
+            x.set(GAP, both);
+            x.face(200, both, 1);
+            x.pass(1);
+        }
+        x.mend();
+        takeOut(x, x.bin(0) - fine, 100, 0);
+        takeOut(x, x.bin(1) - middle, 0, 0);
+        takeOut(x, x.bin(2) - coarse, 0, 100);
+        x.pass(1);
+        due("the fine bin", x.bin(0), fine);
+        due("the middle bin", x.bin(1), middle);
+        due("the coarse bin", x.bin(2), coarse);
+        due("contracts", x.count(2), 0);
+        return x;
+    }
+
+    private static void takeOut(QuarryBlends x, int tonnes, int fineHundredths, int coarseHundredths) {
+        if (tonnes > 0) {
+            x.contract(tonnes, fineHundredths, fineHundredths, coarseHundredths, coarseHundredths, 0);
         }
     }
 
