@@ -432,7 +432,7 @@ public final class QuarryBlends {
                 return BAD_VALUE;
             }
             int face = amount;
-            if (face >= FACE_LIMIT) {
+            if (!within(face, 0, FACE_LIMIT - 1)) {
                 return TOO_MANY;
             }
             left[face] = tonnes;
@@ -620,7 +620,7 @@ public final class QuarryBlends {
                 return BAD_VALUE;
             }
             int contract = amount;
-            if (contract >= CONTRACT_LIMIT) {
+            if (!within(contract, 0, CONTRACT_LIMIT - 1)) {
                 return TOO_MANY;
             }
             int row = contract * TERM_COUNT;
@@ -643,7 +643,7 @@ public final class QuarryBlends {
                 return NO_SUCH;
             }
             int row = contract * TERM_COUNT;
-            int behind = (amount - 1 - contract) * TERM_COUNT;
+            int behind = (Math.min(amount, CONTRACT_LIMIT) - 1 - contract) * TERM_COUNT;
             if (behind > 0) {
                 System.arraycopy(terms, row + TERM_COUNT, terms, row, behind);
             }
@@ -775,7 +775,7 @@ public final class QuarryBlends {
         }
 
         void append(long packed, int amount) {
-            for (int above = amount - 1; above >= 0 && length < PAD_LIMIT; above--) {
+            for (int above = amount - 1; above >= 0 && within(length, 0, PAD_LIMIT - 1); above--) {
                 characters[length] = (char) ((packed >>> (8 * above)) & 255);
                 length++;
             }

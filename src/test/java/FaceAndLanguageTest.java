@@ -5,12 +5,16 @@ import java.lang.reflect.Method;
 import java.lang.reflect.Modifier;
 import java.nio.file.Files;
 import java.nio.file.Path;
+import java.util.ArrayList;
+import java.util.Arrays;
 import java.util.HashSet;
+import java.util.List;
 import java.util.Set;
 import java.util.TreeSet;
 
 /** The public face of the document, and what can be looked up of ../shared/LANGUAGE.md. */
 public final class FaceAndLanguageTest {
+    private static final Path SOURCE = Path.of("src/main/java/QuarryBlends.java");
     private static final String FACE = "GAP,HOURS,LOAD,NONE,NOT_POSSIBLE,NO_SUCH,TOO_MANY,TRUCKS,BAD_TEXT,BAD_VALUE,COST,CRUSH,"
         + "QuarryBlends(),set(int int),face(int int int),contract(int int int int int int),drop(int),mend(),pass(int),"
         + "ofFace(int int),truck(int int),ofContract(int int),bin(int),waiting(int),count(int),then(int int),bestGap(int int),"
@@ -21,7 +25,9 @@ public final class FaceAndLanguageTest {
         constants();
         noOtherMemberIsSeen();
         noPrivateMethodBearsAPublicName();
+        sizes();
         source();
+        methodsAreShort();
         Checks.end();
     }
 
@@ -79,7 +85,6 @@ public final class FaceAndLanguageTest {
             Checks.due(inside.getSimpleName() + " is private and static",
                 Modifier.isPrivate(inside.getModifiers()) && Modifier.isStatic(inside.getModifiers()) ? 1 : 0, 1);
         }
-        Checks.due("twelve classes at most", Math.max(12, 1 + QuarryBlends.class.getDeclaredClasses().length), 12);
     }
 
     private static void noPrivateMethodBearsAPublicName() {
@@ -100,8 +105,44 @@ public final class FaceAndLanguageTest {
         }
     }
 
+    private static void sizes() {
+        List<Class<?>> classes = new ArrayList<>(List.of(QuarryBlends.class.getDeclaredClasses()));
+        classes.add(QuarryBlends.class);
+        atMost("classes", classes.size(), 12);
+        for (Class<?> one : classes) {
+            long fields = Arrays.stream(one.getDeclaredFields()).filter(field -> !Modifier.isStatic(field.getModifiers())).count();
+            atMost("fields of " + one.getSimpleName(), fields, 20);
+            for (Method method : one.getDeclaredMethods()) {
+                atMost("parameters of " + one.getSimpleName() + "." + method.getName(), method.getParameterCount(), 7);
+            }
+        }
+    }
+
+    /** A method begins with a line that is indented, has a parameter list and opens a brace, and ends where that is closed. */
+    private static void methodsAreShort() throws IOException {
+        String header = "";
+        int lines = 0;
+        int methods = 0;
+        for (String line : Files.readAllLines(SOURCE)) {
+            lines++;
+            if (line.matches("( {4}| {8})[A-Za-z][^=.;]*\\(.*\\) \\{") && !line.matches(" +(if|for|while|switch) .*")) {
+                header = line;
+                lines = 1;
+                methods++;
+            } else if (!header.isEmpty() && line.matches(" +}") && line.indexOf('}') == header.length() - header.stripLeading().length()) {
+                atMost("lines of " + header.strip(), lines, 60);
+                header = "";
+            }
+        }
+        Checks.due("methods are found", methods > 60 ? 1 : 0, 1);
+    }
+
+    private static void atMost(String what, long number, long most) {
+        Checks.due(what + ", or as many as are allowed", Math.max(number, most), most);
+    }
+
     private static void source() throws IOException {
-        String source = Files.readString(Path.of("src/main/java/QuarryBlends.java"));
+        String source = Files.readString(SOURCE);
         Checks.due("the import", source.split("\n")[0], "import java.util.Arrays;");
         String code = source.replaceAll("(?s)/\\*.*?\\*/", "").replaceAll("//[^\n]*", "").replaceAll("\"[^\"]*\"", "\"\"");
         String[] words = {"throw", "throws", "try", "catch", "finally", "synchronized", "assert", "package", "float", "double", "record",
